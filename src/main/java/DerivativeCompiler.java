@@ -680,22 +680,23 @@ public final class DerivativeCompiler {
 
         private void workOutSlopes(long[] slopes, int by) {
             for (int i = 0; i < length; i++) {
-                int left = lefts[i];
-                int right = rights[i];
-                switch (kinds[i]) {
-                    case SUM:
-                        slopes[i] = slopes[left] + slopes[right];
-                        break;
-                    case DIFFERENCE:
-                        slopes[i] = slopes[left] - slopes[right];
-                        break;
-                    case PRODUCT:
-                        slopes[i] = slopes[left] * values[right] + values[left] * slopes[right];
-                        break;
-                    default:
-                        slopes[i] = i == X + by ? 1 : 0;
-                        break;
-                }
+                slopes[i] = i == X + by ? 1 : slopeFromParts(slopes, i);
+            }
+        }
+
+        /** A step's derivative from those of its parts, which stand before it in the row. */
+        private long slopeFromParts(long[] slopes, int step) {
+            int left = lefts[step];
+            int right = rights[step];
+            switch (kinds[step]) {
+                case SUM:
+                    return slopes[left] + slopes[right];
+                case DIFFERENCE:
+                    return slopes[left] - slopes[right];
+                case PRODUCT:
+                    return slopes[left] * values[right] + values[left] * slopes[right];
+                default:
+                    return 0;
             }
         }
 
@@ -704,22 +705,10 @@ public final class DerivativeCompiler {
             workOutSlopes(firsts, by);
             workOutSlopes(seconds, then);
             for (int i = 0; i < length; i++) {
-                int left = lefts[i];
-                int right = rights[i];
-                switch (kinds[i]) {
-                    case SUM:
-                        mixed[i] = mixed[left] + mixed[right];
-                        break;
-                    case DIFFERENCE:
-                        mixed[i] = mixed[left] - mixed[right];
-                        break;
-                    case PRODUCT:
-                        mixed[i] = mixed[left] * values[right] + firsts[left] * seconds[right]
-                                + seconds[left] * firsts[right] + values[left] * mixed[right];
-                        break;
-                    default:
-                        mixed[i] = 0;
-                        break;
+                mixed[i] = slopeFromParts(mixed, i);
+                if (kinds[i] == PRODUCT) {
+                    // of a product, each part's derivative meets the other's, too
+                    mixed[i] += firsts[lefts[i]] * seconds[rights[i]] + seconds[lefts[i]] * firsts[rights[i]];
                 }
             }
             return mixed[step];

@@ -3,6 +3,8 @@ import java.util.Random;
 /** Runs of many calls, right and wrong ones, on the program and on the model: the answers are the same. */
 public final class AgainstModelTest {
     private static final int RUNS = 4000;
+    /** Fewer derivatives of the second order than this that are not 0 would test little. */
+    private static final int ENOUGH_BENDS = 10000;
     private static final int CALLS = 512;
     private static final long[] ODD_VALUES = {
         0, 1, -1, 2, 3, -4, Long.MIN_VALUE, Long.MAX_VALUE, 1L << 32, -(1L << 31), 3037000500L,
@@ -13,21 +15,30 @@ public final class AgainstModelTest {
     private final DerivativeCompiler program = new DerivativeCompiler();
     private final Model model = new Model();
     private final int wrongness;
+    private final int owns;
+    private int bends = 0;
 
     private AgainstModelTest(Check check, long seed) {
         this.check = check;
         this.random = new Random(seed);
         this.wrongness = random.nextInt(3) == 0 ? 4 : 40;
+        this.owns = 1 + random.nextInt(6);
+        for (int i = 0; i < owns; i++) {
+            check.due("function()", program.function(), model.function());
+        }
     }
 
     public static void main(String[] args) {
         Check check = new Check("against the model");
+        int bends = 0;
         for (int run = 0; run < RUNS && check.wrong() < 20; run++) {
             AgainstModelTest test = new AgainstModelTest(check, run);
-            for (int i = 0; i < CALLS && check.wrong() < 20; i++) {
+            for (int i = 0; i < CALLS - test.owns && check.wrong() < 20; i++) {
                 test.callOnce("run " + run + " call " + i + " ");
             }
+            bends += test.bends;
         }
+        check.due("enough derivatives of order 2 that are not 0, with " + bends, bends >= ENOUGH_BENDS ? 1 : 0, 1);
         check.finish();
     }
 
@@ -35,11 +46,11 @@ public final class AgainstModelTest {
         int pick = random.nextInt(100);
         if (pick < 18) {
             expression(label);
-        } else if (pick < 20) {
+        } else if (pick < 19) {
             check.due(label + "function()", program.function(), model.function());
-        } else if (pick < 50) {
+        } else if (pick < 45) {
             statement(label);
-        } else if (pick < 53) {
+        } else if (pick < 48) {
             derive(label);
         } else if (pick < 75) {
             run(label);
@@ -62,60 +73,70 @@ public final class AgainstModelTest {
     /** Mostly cheap expressions, so that many statements are let in; now and then the latest ones. */
     private int someExpression() {
         int made = model.count(0);
-        if (random.nextInt(3) == 0) {
-            return below(made);
-        }
-        return random.nextBoolean() ? below(Math.min(made, 12)) : made - 1 - random.nextInt(3);
+        return switch (random.nextInt(4)) {
+            case 0 -> below(made);
+            case 1 -> made - 1 - random.nextInt(3);
+            case 2 -> below(Math.min(made, 16));
+            default -> below(Math.min(made, 4));
+        };
+    }
+
+    private int someFunction() {
+        int made = model.count(1);
+        return random.nextBoolean() ? below(made) : below(Math.min(made, owns));
     }
 
     private long someValue() {
         return switch (random.nextInt(4)) {
             case 0 -> ODD_VALUES[random.nextInt(ODD_VALUES.length)];
             case 1 -> random.nextLong();
-            default -> random.nextInt(9) - 4;
+            default -> random.nextInt(15) - 7;
         };
     }
 
     private void expression(String label) {
         int made = model.count(0);
-        int kind = made < 6 ? random.nextInt(2) : below(12);
-        if (made >= 6 && random.nextInt(6) == 0) {
-            kind = 11;
-        }
-        int a = kind == 0 ? random.nextInt(11) - 5 : kind == 1 ? below(6) : someExpression();
+        int[] kinds = {2, 3, 4, 4, 4, 4, 6, 6, 11, 11, below(12), below(12)};
+        int[] variables = {0, 0, 1, 1, below(6)};
+        int kind = made < 2 ? 1 : made < 6 ? 4 : kinds[random.nextInt(kinds.length)];
+        int a = made < 2 ? made : kind == 0 ? random.nextInt(11) - 5 : someExpression();
+        a = made >= 2 && kind == 1 ? variables[random.nextInt(5)] : a;
         int b = kind == 6 ? below(4) : kind == 10 ? below(2) : someExpression();
-        int c = below(model.count(1));
+        int c = someFunction();
         check.due(label + "expression(" + kind + ", " + a + ", " + b + ", " + c + ")",
                 program.expression(kind, a, b, c), model.expression(kind, a, b, c));
     }
 
     private void statement(String label) {
-        int function = below(model.count(1));
-        int[] kinds = {0, 0, 0, 0, 1, 1, 2, 3, 4, 5, below(6)};
+        int function = someFunction();
+        int[] kinds = {0, 0, 0, 0, 0, 0, 1, 1, 2, 3, 4, 5, below(6)};
         int kind = kinds[random.nextInt(kinds.length)];
-        int a = kind == 0 ? random.nextInt(3) == 0 ? 0 : below(6) : below(2);
+        int[] variables = {0, 0, 0, 1, below(6)};
+        int a = kind == 0 ? variables[random.nextInt(5)] : below(2);
         int b = kind == 4 ? below(7) : someExpression();
         check.due(label + "statement(" + function + ", " + kind + ", " + a + ", " + b + ")",
                 program.statement(function, kind, a, b), model.statement(function, kind, a, b));
     }
 
     private void derive(String label) {
-        int function = below(model.count(1));
+        int function = random.nextInt(3) == 0 ? model.count(1) - 1 : someFunction();
         int by = below(2);
         check.due(label + "derive(" + function + ", " + by + ")",
                 program.derive(function, by), model.derive(function, by));
     }
 
     private void run(String label) {
-        int function = below(model.count(1));
+        int made = model.count(1);
+        int function = random.nextInt(3) == 0 ? made - 1 - random.nextInt(3) : below(made);
         long x = someValue();
         long y = someValue();
-        check.due(label + "run(" + function + ", " + x + ", " + y + ")",
-                program.run(function, x, y), model.run(function, x, y));
+        long due = model.run(function, x, y);
+        bends += model.order(function) == 2 && due != 0 ? 1 : 0;
+        check.due(label + "run(" + function + ", " + x + ", " + y + ")", program.run(function, x, y), due);
     }
 
     private void gradient(String label) {
-        int function = below(model.count(1));
+        int function = someFunction();
         int by = below(2);
         long x = someValue();
         long y = someValue();
