@@ -2,7 +2,7 @@ import java.util.Random;
 
 /** Runs of many calls, right and wrong ones, on the program and on the model: the answers are the same. */
 public final class AgainstModelTest {
-    private static final int RUNS = 4000;
+    private static final int RUNS = 5000;
     /** Fewer derivatives of the second order than this that are not 0 would test little. */
     private static final int ENOUGH_BENDS = 10000;
     private static final int CALLS = 512;
@@ -22,7 +22,7 @@ public final class AgainstModelTest {
         this.check = check;
         this.random = new Random(seed);
         this.wrongness = random.nextInt(3) == 0 ? 4 : 40;
-        this.owns = 1 + random.nextInt(6);
+        this.owns = 1 + random.nextInt(8);
         for (int i = 0; i < owns; i++) {
             check.due("function()", program.function(), model.function());
         }

@@ -1,6 +1,14 @@
-/** Plain names for the kinds of expressions and statements. */
+/** Plain names for the kinds of expressions and statements; what a kind has no use for is -7. */
 final class Builder {
     final DerivativeCompiler compiler = new DerivativeCompiler();
+
+    int function() {
+        return compiler.function();
+    }
+
+    int derive(int function, int by) {
+        return compiler.derive(function, by);
+    }
 
     int constant(int value) {
         return compiler.expression(0, value, -7, -7);
@@ -50,6 +58,15 @@ final class Builder {
         return compiler.expression(11, a, b, function);
     }
 
+    /** An expression of the cost that is asked for, 1 or more, that works out x or its negative. */
+    int costing(int cost) {
+        int e = variable(0);
+        for (int i = 1; i < cost; i++) {
+            e = negative(e);
+        }
+        return e;
+    }
+
     int set(int function, int variable, int expression) {
         return compiler.statement(function, 0, variable, expression);
     }
@@ -72,5 +89,13 @@ final class Builder {
 
     int end(int function) {
         return compiler.statement(function, 5, -7, -7);
+    }
+
+    long run(int function, long x, long y) {
+        return compiler.run(function, x, y);
+    }
+
+    int cost(int function) {
+        return compiler.cost(function);
     }
 }

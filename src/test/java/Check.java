@@ -6,6 +6,7 @@ final class Check {
 
     Check(String title) {
         this.title = title;
+        Watch.begin();
     }
 
     void due(String call, long got, long want) {
@@ -14,6 +15,10 @@ final class Check {
             wrong++;
             System.out.println(title + ": " + call + " answered " + got + ", due is " + want);
         }
+    }
+
+    int answers() {
+        return answers;
     }
 
     int wrong() {

@@ -1,263 +1,85 @@
-/** Promise 6: run, of own and of derived functions. */
+import java.io.IOException;
+
+/** Promise 6: run, of own and of derived functions. What the statements and expressions do is tested by terms. */
 public final class RunTest {
     private static final long LOW = Long.MIN_VALUE;
-    private static final long NONE = DerivativeCompiler.NONE;
+    private static final long HIGH = Long.MAX_VALUE;
 
-    private final Check check;
-
-    private RunTest(Check check) {
-        this.check = check;
+    public static void main(String[] args) throws IOException {
+        Sentences promise = new Sentences("Promise 6: run");
+        promise.test("Runs a function with x and y; its result.", RunTest::smallestAndLargest);
+        promise.test("Runs a function with x and y; its result.", RunTest::changesNothing);
+        promise.test("Runs a function with x and y; its result.", RunTest::whatOthersLeave);
+        promise.test("Runs a function with x and y; its result.", RunTest::ownStores);
+        promise.test("Runs a function with x and y; its result.", RunTest::loopsWithinLoops);
+        promise.test("Runs a function with x and y; its result.", RunTest::deepExpressions);
+        promise.test("Runs a function with x and y; its result.", RunTest::deepBlocks);
+        promise.test("Runs a function with x and y; its result.", RunTest::deepCalls);
+        promise.test("Runs a function with x and y; its result.", RunTest::longest);
+        promise.test("No such function: NONE.", RunTest::noFunction);
+        promise.finish();
     }
 
-    public static void main(String[] args) {
-        Check check = new Check("promise 6, run");
-        RunTest test = new RunTest(check);
-        test.noSuchFunction();
-        test.startsWithZeros();
-        test.arithmetic();
-        test.powers();
-        test.sizes();
-        test.choices();
-        test.branches();
-        test.loops();
-        test.lackingEnds();
-        test.arrays();
-        test.ownStores();
-        test.callsWithin();
-        test.noneAsValue();
-        test.deep();
-        check.finish();
-    }
-
-    /** The function, the first one made, and its derivatives by x, y, x x, x y, y x and y y. */
-    private void all(String what, Builder b, int f, long x, long y, long... dues) {
-        DerivativeCompiler c = b.compiler;
-        if (c.count(1) == 1) {
-            int byX = c.derive(f, 0);
-            int byY = c.derive(f, 1);
-            c.derive(byX, 0);
-            c.derive(byX, 1);
-            c.derive(byY, 0);
-            c.derive(byY, 1);
-        }
-        for (int i = 0; i < dues.length; i++) {
-            check.due(what + ", derivative " + i + " at " + x + ", " + y, c.run(f + i, x, y), dues[i]);
-        }
-    }
-
-    private void noSuchFunction() {
-        DerivativeCompiler c = new DerivativeCompiler();
-        c.function();
-        c.derive(0, 0);
-        for (int wrong : new int[] {-1, 2, 8, Integer.MAX_VALUE, Integer.MIN_VALUE}) {
-            check.due("run(" + wrong + ")", c.run(wrong, 1, 1), NONE);
-        }
-    }
-
-    private void startsWithZeros() {
-        for (int i = 0; i < 6; i++) {
-            Builder b = new Builder();
-            int f = b.compiler.function();
-            b.set(f, 0, b.variable(i));
-            long[] values = {11, 13, 0, 0, 0, 0};
-            all("variable " + i, b, f, 11, 13, values[i], i == 0 ? 1 : 0, i == 1 ? 1 : 0, 0, 0, 0, 0);
-        }
-        for (int array = 0; array < 2; array++) {
-            Builder b = new Builder();
-            int f = b.compiler.function();
-            b.set(f, 0, b.element(array, b.variable(0)));
-            for (int place = 0; place < 4; place++) {
-                all("element", b, f, place, 1, 0, 0, 0, 0, 0, 0, 0);
+    private static void smallestAndLargest(Check check) {
+        long[] values = {LOW, LOW + 1, -1, 0, 1, HIGH - 1, HIGH};
+        Builder b = new Builder();
+        int x = b.variable(0);
+        int y = b.variable(1);
+        Derivatives d = Derivatives.of(check, b, b.difference(b.product(x, y), y));
+        for (long first : values) {
+            for (long second : values) {
+                d.due("x y - y", first, second, first * second - second, second, first - 1, 0, 1, 1);
             }
         }
     }
 
-    private void arithmetic() {
-        Builder b = new Builder();
-        int f = b.compiler.function();
-        int x = b.variable(0);
-        int y = b.variable(1);
-        b.set(f, 0, b.difference(b.product(b.sum(x, b.constant(-3)), b.product(x, y)), b.negative(y)));
-        // (x - 3) x y + y
-        all("polynomial", b, f, 5, 7, 77, 49, 11, 14, 7, 7, 0);
-        all("polynomial", b, f, -2, -1, -11, 7, 11, -2, -7, -7, 0);
-        Builder sums = new Builder();
-        int h = sums.compiler.function();
-        x = sums.variable(0);
-        y = sums.variable(1);
-        int product = sums.product(x, y);
-        int square = sums.power(y, 2);
-        // (2 x y + y^2) - (x y - y^2) = x y + 2 y^2
-        sums.set(h, 0, sums.difference(sums.sum(sums.sum(product, product), square), sums.difference(product, square)));
-        all("sums", sums, h, 3, 5, 65, 5, 23, 0, 1, 1, 4);
-        Builder wraps = new Builder();
-        int g = wraps.compiler.function();
-        wraps.set(g, 0, wraps.product(wraps.variable(0), wraps.sum(wraps.variable(0), wraps.variable(1))));
-        all("wrapping", wraps, g, LOW, LOW, 0, LOW, LOW, 2, 1, 1, 0);
-        all("wrapping", wraps, g, Long.MAX_VALUE, 1, LOW, -1, Long.MAX_VALUE, 2, 1, 1, 0);
-    }
-
-    private void powers() {
-        long[][] dues = {{1, 0, 0}, {-5, 1, 0}, {25, -10, 2}, {-125, 75, -30}};
-        for (int power = 0; power <= 3; power++) {
-            Builder b = new Builder();
-            int f = b.compiler.function();
-            b.set(f, 0, b.power(b.variable(1), power));
-            long[] due = dues[power];
-            all("power " + power, b, f, 4, -5, due[0], 0, due[1], 0, 0, 0, due[2]);
+    private static void changesNothing(Check check) {
+        Builder ran = new Builder();
+        Builder kept = new Builder();
+        Ways.busy(ran);
+        Ways.busy(kept);
+        for (int i = 0; i < 20; i++) {
+            for (int f = 0; f < Ways.FUNCTIONS; f++) {
+                ran.run(f, i * 7 - 50, 40 - i);
+            }
         }
-        Builder zero = new Builder();
-        int f = zero.compiler.function();
-        zero.set(f, 0, zero.power(zero.variable(0), 0));
-        all("0 to the power 0", zero, f, 0, 0, 1, 0, 0, 0, 0, 0, 0);
-        Builder inner = new Builder();
-        int g = inner.compiler.function();
-        inner.set(g, 0, inner.power(inner.product(inner.variable(0), inner.variable(1)), 3));
-        // (x y)^3
-        all("a product's power", inner, g, 2, 3, 216, 324, 216, 324, 324, 324, 144);
-    }
-
-    private void sizes() {
-        Builder b = new Builder();
-        int f = b.compiler.function();
-        b.set(f, 0, b.size(b.product(b.variable(0), b.variable(1))));
-        all("size", b, f, 2, 3, 6, 3, 2, 0, 1, 1, 0);
-        all("size", b, f, -2, 3, 6, -3, 2, 0, -1, -1, 0);
-        all("size of 0", b, f, 0, 3, 0, 0, 0, 0, 0, 0, 0);
-        all("size of the lowest", b, f, LOW, 1, LOW, -1, LOW, 0, -1, -1, 0);
-    }
-
-    private void choices() {
-        Builder b = new Builder();
-        int f = b.compiler.function();
-        int x = b.variable(0);
-        int y = b.variable(1);
-        b.set(f, 0, b.lesser(b.power(x, 2), b.product(x, y)));
-        all("lesser, a", b, f, 2, 3, 4, 4, 0, 2, 0, 0, 0);
-        all("lesser, b", b, f, 3, 2, 6, 2, 3, 0, 1, 1, 0);
-        all("lesser, equal", b, f, 3, 3, 9, 6, 0, 2, 0, 0, 0);
-        Builder g = new Builder();
-        int h = g.compiler.function();
-        x = g.variable(0);
-        y = g.variable(1);
-        g.set(h, 0, g.greater(g.power(x, 2), g.product(x, y)));
-        all("greater, a", g, h, 3, 2, 9, 6, 0, 2, 0, 0, 0);
-        all("greater, b", g, h, 2, 3, 6, 3, 2, 0, 1, 1, 0);
-        all("greater, equal", g, h, 3, 3, 9, 6, 0, 2, 0, 0, 0);
-        Builder far = new Builder();
-        int k = far.compiler.function();
-        far.set(k, 0, far.lesser(far.variable(0), far.variable(1)));
-        all("far apart", far, k, LOW, 1, LOW, 1, 0, 0, 0, 0, 0);
-        all("far apart", far, k, Long.MAX_VALUE, -1, -1, 0, 1, 0, 0, 0, 0);
-    }
-
-    private void branches() {
-        Builder b = new Builder();
-        int f = b.compiler.function();
-        int x = b.variable(0);
-        int y = b.variable(1);
-        b.doIf(f, b.difference(x, y));
-        b.doIf(f, y);
-        b.set(f, 0, b.product(x, y));
-        b.doElse(f);
-        b.set(f, 0, b.sum(x, y));
-        b.end(f);
-        b.doElse(f);
-        b.set(f, 0, b.negative(x));
-        b.end(f);
-        b.set(f, 0, b.sum(x, x));
-        all("both", b, f, 5, 3, 30, 6, 10, 0, 2, 2, 0);
-        all("the first alone", b, f, 5, 0, 10, 2, 2, 0, 0, 0, 0);
-        all("the first alone", b, f, 5, -1, 8, 2, 2, 0, 0, 0, 0);
-        all("none, equal", b, f, 3, 3, -6, -2, 0, 0, 0, 0, 0);
-        all("none", b, f, 2, 3, -4, -2, 0, 0, 0, 0, 0);
-    }
-
-    private void loops() {
-        Builder b = new Builder();
-        int f = b.compiler.function();
-        int x = b.variable(0);
-        b.repeat(f, 3);
-        b.set(f, 0, b.product(x, b.variable(1)));
-        b.end(f);
-        b.repeat(f, 1);
-        b.set(f, 0, b.sum(x, x));
-        b.end(f);
-        // 2 x y^3
-        all("repeats", b, f, 5, 2, 80, 16, 120, 0, 24, 24, 120);
-        Builder nested = new Builder();
-        int g = nested.compiler.function();
-        nested.repeat(g, 2);
-        nested.set(g, 2, nested.constant(1));
-        nested.repeat(g, 2);
-        nested.doIf(g, nested.variable(2));
-        nested.set(g, 0, nested.negative(nested.variable(0)));
-        nested.end(g);
-        nested.set(g, 2, nested.constant(0));
-        nested.end(g);
-        nested.end(g);
-        all("nested", nested, g, 7, 0, 7, 1, 0, 0, 0, 0, 0);
-    }
-
-    private void lackingEnds() {
-        Builder b = new Builder();
-        int f = b.compiler.function();
-        int x = b.variable(0);
-        int y = b.variable(1);
-        int sum = b.sum(x, y);
-        b.repeat(f, 2);
-        b.doIf(f, y);
-        check.due("nothing within yet", b.compiler.run(f, 4, 1), 4);
-        b.repeat(f, 2);
-        b.set(f, 0, sum);
-        check.due("all of them lack", b.compiler.count(3), 3);
-        all("lacking", b, f, 10, 1, 14, 1, 4, 0, 0, 0, 0);
-        all("lacking", b, f, 10, -1, 10, 1, 0, 0, 0, 0, 0);
-        b.end(f);
-        b.doElse(f);
-        b.set(f, 0, b.negative(x));
-        all("lacking behind an else", b, f, 10, 0, 10, 1, 0, 0, 0, 0, 0);
-        b.set(f, 0, b.constant(3));
-        all("more behind an else", b, f, 10, 0, 3, 0, 0, 0, 0, 0, 0);
-        all("more behind an else, passed by", b, f, 10, 1, 14, 1, 4, 0, 0, 0, 0);
-    }
-
-    private void arrays() {
-        for (int place = -6; place <= 6; place++) {
-            Builder b = new Builder();
-            int f = b.compiler.function();
-            int x = b.variable(0);
-            int y = b.variable(1);
-            b.set(f, 5, b.constant(place));
-            b.setElement(f, 0, b.power(x, 2));
-            b.setElement(f, 1, b.product(x, y));
-            b.set(f, 5, b.constant(place + 1));
-            b.setElement(f, 1, y);
-            b.set(f, 0, b.element(1, b.constant(place + 4)));
-            all("array 1, place " + place, b, f, 3, 7, 21, 7, 3, 0, 1, 1, 0);
-            b.set(f, 0, b.element(0, b.constant(place - 4)));
-            all("array 0, place " + place, b, f, 3, 7, 9, 6, 0, 2, 0, 0, 0);
-            b.set(f, 0, b.element(0, b.constant(place + 1)));
-            all("array 0, beside " + place, b, f, 3, 7, 0, 0, 0, 0, 0, 0, 0);
+        java.util.List<Showing.Answer> answers = Showing.of(ran.compiler);
+        java.util.List<Showing.Answer> dues = Showing.of(kept.compiler);
+        for (int i = 0; i < dues.size(); i++) {
+            check.due("after 100 runs " + dues.get(i).call(), answers.get(i).value(), dues.get(i).value());
         }
+    }
+
+    /** A long run, then a short one: nothing of the first may show in the second. */
+    private static void whatOthersLeave(Check check) {
         Builder b = new Builder();
-        int f = b.compiler.function();
-        b.set(f, 5, b.variable(0));
-        b.setElement(f, 0, b.variable(1));
-        b.set(f, 0, b.element(0, b.variable(0)));
-        all("a place has no derivative", b, f, LOW + 3, 7, 7, 0, 1, 0, 0, 0, 0);
-        all("a place has no derivative", b, f, -5, 7, 7, 0, 1, 0, 0, 0, 0);
+        int f = b.function();
+        int empty = b.function();
+        int byX = b.derive(empty, 0);
+        int byXX = b.derive(byX, 0);
+        int x = b.variable(0);
+        b.repeat(f, 5);
+        b.set(f, 0, b.power(x, 2));
+        for (int i = 0; i < 5; i++) {
+            check.due("x^32", b.run(f, 3, 1), 1853020188851841L);
+            check.due("x", b.run(empty, 8, 9), 8);
+            check.due("x by x", b.run(byX, 8, 9), 1);
+            check.due("x by x and x", b.run(byXX, 8, 9), 0);
+            check.due("x^32 backwards", b.compiler.gradient(f, 0, 1, 1), 32);
+            check.due("x backwards", b.compiler.gradient(empty, 0, 8, 9), 1);
+            check.due("x backwards by y", b.compiler.gradient(empty, 1, 8, 9), 0);
+        }
     }
 
     /** A call has variables and arrays of its own, and leaves those of its caller alone. */
-    private void ownStores() {
+    private static void ownStores(Check check) {
         Builder b = new Builder();
-        int f = b.compiler.function();
+        int f = b.function();
         int x = b.variable(0);
         int y = b.variable(1);
         int two = b.variable(2);
         int first = b.element(0, b.constant(0));
-        int g = b.compiler.function();
+        int g = b.function();
         b.set(g, 2, b.sum(two, x));
         b.setElement(g, 0, b.sum(first, y));
         b.set(g, 0, b.sum(two, first));
@@ -267,69 +89,148 @@ public final class RunTest {
         b.set(f, 1, call);
         b.set(f, 1, two);
         b.set(f, 0, b.difference(b.variable(1), first));
-        check.due("the callee", b.compiler.run(g, 3, 5), 8);
-        check.due("the caller", b.compiler.run(f, 20, 3), 17);
-        check.due("the same again", b.compiler.run(f, 20, 3), 17);
+        check.due("the callee", b.run(g, 3, 5), 8);
+        check.due("the caller", b.run(f, 20, 3), 17);
+        check.due("the same again", b.run(f, 20, 3), 17);
     }
 
-    private void callsWithin() {
+    private static void loopsWithinLoops(Check check) {
         Builder b = new Builder();
-        int f = b.compiler.function();
+        int f = b.function();
         int x = b.variable(0);
-        int y = b.variable(1);
-        int product = b.product(x, y);
-        int byX = b.compiler.derive(f, 0);
-        int byXY = b.compiler.derive(byX, 1);
-        int byXX = b.compiler.derive(byX, 0);
-        int g = b.compiler.function();
-        b.set(g, 0, b.product(product, y));
-        // g = x y^2, f = g(x y, x + y) = x y (x + y)^2
-        b.set(f, 0, b.call(g, product, b.sum(x, y)));
-        check.due("f", b.compiler.run(f, 2, 3), 150);
-        check.due("f by x", b.compiler.run(byX, 2, 3), 135);
-        check.due("f by x and y", b.compiler.run(byXY, 2, 3), 87);
-        check.due("f by x and x", b.compiler.run(byXX, 2, 3), 72);
+        b.repeat(f, 3);
+        b.set(f, 0, b.product(x, b.variable(1)));
+        b.end(f);
+        b.repeat(f, 1);
+        b.set(f, 0, b.sum(x, x));
+        b.end(f);
+        // 2 x y^3
+        new Derivatives(check, b, f).due("loops", 5, 2, 80, 16, 120, 0, 24, 24, 120);
+        b = new Builder();
+        int g = b.function();
+        b.repeat(g, 2);
+        b.set(g, 2, b.constant(1));
+        b.repeat(g, 2);
+        b.doIf(g, b.variable(2));
+        b.set(g, 0, b.negative(b.variable(0)));
+        b.end(g);
+        b.set(g, 2, b.constant(0));
+        b.end(g);
+        b.end(g);
+        new Derivatives(check, b, g).due("a loop with a branch within another", 7, 0, 7, 1);
     }
 
-    private void noneAsValue() {
+    /** The deepest expression that a cost of 40 allows. */
+    private static void deepExpressions(Check check) {
         Builder b = new Builder();
-        int f = b.compiler.function();
-        check.due("NONE as a value", b.compiler.run(f, NONE, 0), NONE);
-        b.set(f, 0, b.sum(b.variable(0), b.constant(1)));
-        check.due("NONE as a value", b.compiler.run(f, NONE - 1, 0), NONE);
-    }
-
-    /** The deepest that a cost of 40 allows: in an expression, in blocks, in calls. */
-    private void deep() {
-        Builder b = new Builder();
-        int f = b.compiler.function();
-        int e = b.variable(0);
-        for (int i = 1; i < 38; i++) {
-            e = b.negative(e);
+        Derivatives d = Derivatives.of(check, b, b.costing(38));
+        check.due("its cost", b.cost(0), 40);
+        d.due("37 negatives", 9, 0, -9, -1);
+        b = new Builder();
+        int e = b.power(b.variable(0), 3);
+        for (int i = 5; i <= 38; i++) {
+            e = b.power(e, 1);
         }
-        b.set(f, 0, e);
-        all("deep negatives", b, f, 9, 0, -9, -1, 0, 0, 0, 0, 0);
-        Builder blocks = new Builder();
-        int g = blocks.compiler.function();
-        int x = blocks.variable(0);
+        d = Derivatives.of(check, b, e);
+        check.due("its cost", b.cost(0), 40);
+        d.due("powers of powers", -2, 0, -8, 12, 0, -12);
+        b = new Builder();
+        e = b.variable(1);
+        for (int i = 0; i < 18; i++) {
+            e = b.sum(e, b.variable(0));
+        }
+        d = Derivatives.of(check, b, e);
+        check.due("its cost", b.cost(0), 39);
+        d.due("18 sums", 2, 5, 41, 18, 1);
+    }
+
+    private static void deepBlocks(Check check) {
+        Builder b = new Builder();
+        int f = b.function();
+        int x = b.variable(0);
         for (int i = 0; i < 11; i++) {
-            blocks.repeat(g, 1);
+            b.repeat(f, 1);
         }
-        blocks.set(g, 0, blocks.power(x, 2));
-        all("deep blocks", blocks, g, 9, 0, 81, 18, 0, 2, 0, 0, 0);
-        Builder chain = new Builder();
-        int y = chain.variable(1);
-        int last = chain.compiler.function();
-        chain.set(last, 0, chain.power(y, 2));
+        b.set(f, 0, b.power(x, 2));
+        new Derivatives(check, b, f).due("eleven repeats", 9, 0, 81, 18, 0, 2);
+        b = new Builder();
+        f = b.function();
+        x = b.variable(0);
+        for (int i = 0; i < 5; i++) {
+            b.doIf(f, x);
+            b.doElse(f);
+        }
+        b.repeat(f, 5);
+        b.set(f, 0, b.sum(x, b.variable(1)));
+        Derivatives d = new Derivatives(check, b, f);
+        d.due("a repeat within five elses", -9, 1, -4, 1, 5);
+        d.due("passed by", 9, 1, 9, 1);
+    }
+
+    private static void deepCalls(Check check) {
+        Builder b = new Builder();
+        int y = b.variable(1);
+        int last = b.function();
+        b.set(last, 0, b.power(y, 2));
         for (int i = 1; i < 7; i++) {
-            int next = chain.compiler.function();
-            check.due("a caller more", chain.set(next, 0, chain.call(last, y, y)), 1);
+            int next = b.function();
+            check.due("a caller more", b.set(next, 0, b.call(last, y, y)), 1);
             last = next;
         }
-        check.due("its cost", chain.compiler.cost(last), 35);
-        int byY = chain.compiler.derive(last, 1);
-        check.due("deep calls", chain.compiler.run(last, 0, 9), 81);
-        check.due("deep calls by y", chain.compiler.run(byY, 0, 9), 18);
-        check.due("deep calls backwards", chain.compiler.gradient(last, 1, 0, 9), 18);
+        check.due("its cost", b.cost(last), 35);
+        int byY = b.derive(last, 1);
+        check.due("seven functions deep", b.run(last, 0, 9), 81);
+        check.due("by y", b.run(byY, 0, 9), 18);
+        check.due("backwards", b.compiler.gradient(last, 1, 0, 9), 18);
+        Builder eight = new Builder();
+        int x = eight.variable(0);
+        for (int i = 0; i < 8; i++) {
+            eight.function();
+        }
+        for (int i = 1; i < 8; i++) {
+            eight.set(i, 0, eight.call(i - 1, x, x));
+        }
+        check.due("the first one", eight.set(0, 0, eight.negative(x)), 1);
+        check.due("its dearest caller", eight.cost(7), 39);
+        check.due("eight functions deep", eight.run(7, 6, 0), -6);
+        check.due("eight functions deep, backwards", eight.compiler.gradient(7, 0, 6, 0), -1);
+    }
+
+    /** The most that can be done at a cost of 40: nearly every part of it works something out. */
+    private static void longest(Check check) {
+        Builder b = new Builder();
+        int f = b.function();
+        int x = b.variable(0);
+        b.repeat(f, 5);
+        b.set(f, 0, b.power(x, 3));
+        b.set(f, 0, x);
+        check.due("its cost", b.cost(f), 37);
+        Derivatives d = new Derivatives(check, b, f);
+        d.due("x^243", -1, 0, -1, 243, 0, -243 * 242);
+        d.due("x^243", 1, 0, 1, 243, 0, 243 * 242);
+        b = new Builder();
+        f = b.function();
+        int e = b.constant(1);
+        for (int i = 1; i < 19; i++) {
+            e = b.sum(e, b.constant(1));
+        }
+        b.set(f, 0, e);
+        check.due("its cost", b.cost(f), 39);
+        new Derivatives(check, b, f).due("nineteen ones", 4, 5, 19);
+    }
+
+    private static void noFunction(Check check) {
+        for (int function : Ways.NO_FUNCTIONS) {
+            Refusals.none(check, "run of " + function, Ways::busy, c -> c.run(function, 1, 1));
+            Refusals.none(check, "run of " + function + " with the lowest", Ways::busy, c -> c.run(function, LOW, LOW));
+        }
+        Refusals.none(check, "run in a new object", Ways::nothing, c -> c.run(0, 0, 0));
+        Refusals.none(check, "run of a ninth", Ways::fullOfFunctions, c -> c.run(8, 0, 0));
+        DerivativeCompiler c = new DerivativeCompiler();
+        for (int i = 0; i < 8; i++) {
+            check.due("not yet " + i, c.run(i, 6, 7), -1000000000000000000L);
+            c.function();
+            check.due("then " + i, c.run(i, 6, 7), 6);
+        }
     }
 }
