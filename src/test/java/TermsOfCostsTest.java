@@ -59,6 +59,20 @@ public final class TermsOfCostsTest {
         costs(check, "a lesser", b, b.lesser(three, three), 13);
         costs(check, "a greater", b, b.greater(three, three), 13);
         costs(check, "a call", b, b.call(empty, three, three), 8);
+        b = new Builder();
+        x = b.variable(0);
+        empty = b.function();
+        int call = b.call(empty, x, x);
+        costs(check, "a sum of a call", b, b.sum(call, call), 9);
+        costs(check, "a difference of a call", b, b.difference(call, call), 9);
+        costs(check, "a product of a call", b, b.product(call, call), 9);
+        costs(check, "a lesser of a call", b, b.lesser(call, call), 17);
+        costs(check, "a greater of a call", b, b.greater(call, call), 17);
+        costs(check, "a call of a call", b, b.call(empty, call, call), 10);
+        b.repeat(empty, 1);
+        check.due("the sum when the function has grown", b.cost(1), 2 + 9 + 2);
+        check.due("the lesser when the function has grown", b.cost(4), 2 + 17 + 4);
+        check.due("the call of a call when the function has grown", b.cost(6), 2 + 10 + 3);
     }
 
     private static void twice(Check check) {
